@@ -16,6 +16,7 @@ import java.util.TreeSet;
 public final class OracleTest {
     private static final int RUNS = 600;
     private static final int CALLS = 512;
+    private static final int[] EXTREMES = {Integer.MIN_VALUE, Integer.MIN_VALUE + 1, -1000, 1000, Integer.MAX_VALUE - 1, Integer.MAX_VALUE};
     private static final BigInteger MOST = BigInteger.valueOf(1000000000);
 
     private static int wrong = 0;
@@ -103,7 +104,7 @@ public final class OracleTest {
                 due("type(" + (int) c + ")", real.type(c), model.type(c));
             }
             if (random.nextInt(8) == 0) {
-                int c = random.nextInt(200) - 30;
+                int c = near(30, 130);
                 due("type(" + c + ")", real.type(c), model.type(c));
             }
         }
@@ -122,13 +123,15 @@ public final class OracleTest {
             for (int i = -1; i <= 2 + random.nextInt(6); i++) {
                 due("chosen(" + i + ")", real.chosen(i), model.chosenAt(i));
             }
+            int far = near(0, 60);
+            due("chosen(" + far + ")", real.chosen(far), model.chosenAt(far));
             due("told(5)", real.told(5), model.told(5));
             int count = model.derivations();
             due("derivations()", real.derivations(), count);
             see("derivations " + (count < 0 ? "error" : count < 2 ? "" + count : "many"));
             for (int n = 0; n < 6; n++) {
-                int j = random.nextInt(8) == 0 ? random.nextInt(4) - 1 : random.nextInt(2);
-                int i = random.nextInt(8) == 0 ? random.nextInt(210) - 3 : random.nextInt(8);
+                int j = near(0, 1);
+                int i = random.nextInt(8) == 0 ? near(0, 200) : random.nextInt(8);
                 int step = model.step(j, i);
                 due("step(" + j + ", " + i + ")", real.step(j, i), step);
                 see("step " + (step >= 0 ? "told" : "" + step));
@@ -141,6 +144,9 @@ public final class OracleTest {
         }
 
         int near(int least, int most) {
+            if (random.nextInt(60) == 0) {
+                return EXTREMES[random.nextInt(EXTREMES.length)];
+            }
             return random.nextInt(10) == 0 ? least - 1 + random.nextInt(most - least + 3) : least + random.nextInt(most - least + 1);
         }
 

@@ -494,6 +494,10 @@ public final class PromiseTest {
         write(over, "");
         due("61 productions", over.parse(), -10);
         due("told(5) of 61", over.told(5), 60);
+        LookaheadDepths rest = loaded("A=CDDDe;C=aEB;D=EEBBB;E=aFFFF;B=F;F=;");
+        write(rest, "aaaaaaaa");
+        due("60 productions and 8 letters, but a letter too few", rest.parse(), -18);
+        due("told(5) of it", rest.told(5), 60);
     }
 
     private static void chosen() {
@@ -544,6 +548,11 @@ public final class PromiseTest {
         dueCount(loaded("A=a;B=B;"), "a", 1);
         dueCount(loaded("A=Ba|Cb|;B=Cb;C=Ba|c;"), "cbab", 1);
         dueCount(loaded("A=BAc|d;B=|b;"), "bdcc", 2);
+        dueCount(loaded("A=Ab|B;B=C;C=D;D=E;E=F;F=a;"), "abb", 1);
+        LookaheadDepths typed = loaded("A=aA|a;");
+        dueCount(typed, "a", 1);
+        typed.type('b');
+        due("derivations() behind type()", typed.derivations(), 0);
     }
 
     private static void dueSteps(LookaheadDepths x, int j, int... steps) {

@@ -23,7 +23,7 @@ public final class RoomTest {
             wrong++;
             System.out.println("a new object takes " + made + " bytes");
         }
-        if (more > 1000) {
+        if (more > 4000) {
             wrong++;
             System.out.println("calls take " + more + " bytes");
         }
