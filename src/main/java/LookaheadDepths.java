@@ -66,7 +66,7 @@ public final class LookaheadDepths {
         if (reader.kind() != NONE) {
             return FAILED - reader.position();
         }
-        grammar = reader.exchange(history.record(grammar));
+        grammar = reader.exchange(history.remember(grammar));
         study();
         return grammar.count();
     }
@@ -384,7 +384,7 @@ public final class LookaheadDepths {
     }
 
     private static int bit(int mask, int i) {
-        return mask >> i & 1;
+        return (mask >> i) & 1;
     }
 
     /** The text buffer. */
@@ -643,7 +643,7 @@ public final class LookaheadDepths {
         }
 
         /** Remembers a grammar; returns one that is not in use any more. */
-        Grammar record(Grammar latest) {
+        Grammar remember(Grammar latest) {
             if (count < MOST_REMEMBERED) {
                 Grammar unused = places[count];
                 places[count] = latest;
@@ -781,7 +781,7 @@ public final class LookaheadDepths {
                 if (isLetter(symbol)) {
                     letters |= 1 << symbol;
                 } else {
-                    reachable |= 1 << symbol - FIRST_NONTERMINAL;
+                    reachable |= 1 << (symbol - FIRST_NONTERMINAL);
                 }
             }
         }
@@ -823,7 +823,7 @@ public final class LookaheadDepths {
             }
             int loops = 0;
             for (int x = 0; x < NONTERMINALS; x++) {
-                loops |= relation[x] & 1 << x;
+                loops |= relation[x] & (1 << x);
             }
             return loops;
         }
@@ -874,8 +874,8 @@ public final class LookaheadDepths {
         void addLetter(int letter) {
             if (letter >= 0 && letter < LETTERS) {
                 rests[letter + 1] |= EMPTY_WORD;
-                pairs |= 1L << letter + 1;
-                heads |= 1L << letter + 1;
+                pairs |= 1L << (letter + 1);
+                heads |= 1L << (letter + 1);
             }
         }
 
@@ -905,7 +905,7 @@ public final class LookaheadDepths {
                 rests[d] = joinPairs(front.rests[d], back) | (frontMayVanish ? back.rests[d] : 0L);
             }
             pairs = joinPairs(front.pairs, back);
-            heads = front.heads & ~EMPTY_WORD | (frontMayVanish ? back.heads : 0L);
+            heads = (front.heads & ~EMPTY_WORD) | (frontMayVanish ? back.heads : 0L);
         }
 
         /** The words of a set with at most two letters followed by those of another one, cut to two letters. */
@@ -918,8 +918,9 @@ public final class LookaheadDepths {
                 return joined;
             }
             for (int d = 1; d < WORD_BASE; d++) {
-                if ((front >> d & 1L) != 0) {
-                    joined |= (back.heads & EMPTY_WORD) << d | (back.heads & ONE_LETTER) << WORD_BASE * d;
+                if (((front >> d) & 1L) != 0) {
+                    joined |= (back.heads & EMPTY_WORD) << d;
+                    joined |= (back.heads & ONE_LETTER) << (WORD_BASE * d);
                 }
             }
             return joined;
@@ -934,10 +935,10 @@ public final class LookaheadDepths {
                 return heads != 0;
             }
             if (k < MOST_AHEAD) {
-                return ((k == 1 ? heads : pairs) >> word & 1L) != 0;
+                return (((k == 1 ? heads : pairs) >> word) & 1L) != 0;
             }
             int unit = word < WORD_LIMITS[1] ? 1 : word < WORD_LIMITS[2] ? WORD_LIMITS[1] : WORD_LIMITS[2];
-            return (rests[word / unit] >> word % unit & 1L) != 0;
+            return ((rests[word / unit] >> (word % unit)) & 1L) != 0;
         }
 
         /** How many words there are when all are cut to k letters. */
@@ -990,7 +991,7 @@ public final class LookaheadDepths {
         private static long lastDigits(long twos) {
             long digits = 0;
             for (int d = 1; d < WORD_BASE; d++) {
-                digits |= twos >> WORD_BASE * d & ONE_LETTER;
+                digits |= (twos >> (WORD_BASE * d)) & ONE_LETTER;
             }
             return digits;
         }
