@@ -464,6 +464,8 @@ public final class BoundaryTest {
         dueSteps("A=B|C;C=a|Da;D=;B=a;", "a", 1, 1, 2);
         dueSteps("A=BB;B=a||aa;", "a", 0, 0, 1, 2);
         dueSteps("A=BB;B=a||aa;", "a", 1, 0, 2, 1);
+        dueSteps("A=a|aa|aaa;", "aa", 0, 1);
+        dueSteps("A=a|aa|aaa;", "aa", 1);
         dueSteps("A=aB|a;B=|;", "a", 0, 0, 2);
         dueSteps("A=aB|a;B=|;", "a", 1, 0, 3);
         sentence("The words of the grammar are those that are derived from the start.");
@@ -542,6 +544,8 @@ public final class BoundaryTest {
         dueWordsAhead("A=Bcde;B=a|;", 1, 3, "acd");
         dueWordsAhead("A=Bcde;B=a|;", 2, 3, "cde");
         dueWordsAhead("A=Bcde;B=a|;", 2, 1, "c");
+        dueWordsAhead("A=aBcd;B=b|;", 0, 3, "abc", "acd");
+        dueWordsAhead("A=aBcd;B=b|;", 0, 2, "ab", "ac");
         dueWordsAhead("A=a;B=b;", 1, 0);
         dueWordsAhead("A=aB;B=B;", 0, 0);
         sentence("(A word ahead with fewer than k letters stands for the end of the input behind it.)");
@@ -571,6 +575,8 @@ public final class BoundaryTest {
         due("clash(0, 2)", x.clash(0, 2), 1);
         due("clash(0, 3)", x.clash(0, 3), NONE);
         due("clash(1, 0), without words ahead", x.clash(1, 0), NONE);
+        due("clash(0, 0), the second without words ahead", loaded("A=a|aB;B=bB;").clash(0, 0), NONE);
+        due("clash(0, 0), the first without words ahead", loaded("A=aB|a;B=bB;").clash(0, 0), NONE);
         sentence("The depth of a nonterminal is the smallest k from 0 to 3 by which no two of its productions clash; "
             + "if there is none, it has no depth.");
         dueDepths("A=;", 0, 0);
@@ -640,6 +646,17 @@ public final class BoundaryTest {
         dueParse("A=;", "aaaaaaaa", -10, 0);
         due("60 productions", loaded(SIXTY, "").parse(), 60);
         due("61 productions", loaded(SIXTY_ONE, "").parse(), -10);
+        String eight = ";B=aaaaC;C=DDDD;D=EEEEE;E=;F=;";
+        due("60 productions and 8 letters", loaded("A=BBDF" + eight, "aaaaaaaa").parse(), 60);
+        due("60 productions and 8 letters, one is missing", loaded("A=BBDFb" + eight, "aaaaaaaa").parse(), -18);
+        due("61 productions and 8 letters", loaded("A=BBDFF" + eight, "aaaaaaaa").parse(), -18);
+        due("60 productions, a letter is left", loaded(SIXTY, "a").parse(), -10);
+        int[] high = new int[60];
+        for (int i = 0; i < 60; i++) {
+            int[] round = {0, 2, 3, 4, 5};
+            high[i] = i < 40 ? round[i % 5] : i == 40 ? 1 : 6;
+        }
+        dueParse("A=aBFFF|;B=CFFFF;C=DFFFF;D=EFFFF;E=AFFFF;F=;", "aaaaaaaa", -18, high);
         LookaheadDepths letters = parsed("A=abBFE;B=CCCCC;C=DDDDD;D=;E=cBCDD;F=;", "abc");
         due("a 61st production behind three letters", letters.parse(), -13);
         due("told(5) of it", letters.told(5), 60);
@@ -754,6 +771,10 @@ public final class BoundaryTest {
             + "the first such one in the text.");
         dueLoad("A=B;", -12, 5);
         dueLoad("A=aaaaF;", -16, 5);
+        dueLoad("F=ABCDE;", -12, 5);
+        for (char c = 'A'; c <= 'E'; c++) {
+            dueLoad("F=eF|" + c + ";", -15, 5);
+        }
         dueLoad("A=ABFEB;B=C;", -14, 5);
         dueLoad("A=;B=F;C=E;", -15, 5);
         dueLoad("A=DC;C=;D=;E=EB;", -24, 5);
@@ -821,7 +842,30 @@ public final class BoundaryTest {
             }
             due("undo() at the end", y.undo(), STATE);
         }
+        LookaheadDepths refused = empty();
+        for (int n = 2; n <= 8; n++) {
+            write(refused, "A=" + times("|", n - 1) + ";");
+            refused.load();
+            write(refused, "B=b|b|b|b|b|b|b|b|b!");
+            due("load() of a text with a fault", refused.load(), -29);
+        }
+        for (int n = 7; n >= 4; n--) {
+            due("undo() behind refused calls", refused.undo(), n - 4);
+            due("told(0) behind it", refused.told(0), n);
+            due("told(1) behind it", refused.told(1), 0);
+        }
         sentence("undo() restores the latest one and removes it");
+        LookaheadDepths again = loaded("A=a;");
+        again.undo();
+        write(again, "A=b;");
+        again.load();
+        write(again, "C=c|c!");
+        again.load();
+        due("symbol(0, 0) behind a refused load()", again.symbol(0, 0), 1);
+        due("undo()", again.undo(), 0);
+        due("production(0, 0), the first grammar", again.production(0, 0), 0);
+        due("production(0, 1), the first grammar", again.production(0, 1), 0);
+        due("told(0), the first grammar", again.told(0), 1);
         LookaheadDepths z = loaded("A=a;");
         write(z, "B=b|;");
         z.load();
@@ -930,6 +974,13 @@ public final class BoundaryTest {
         due("step(0, 0) of the empty word", x.step(0, 0), 1);
         due("told(3)", x.told(3), 0);
         due("told(0), the grammar stays", x.told(0), 2);
+        LookaheadDepths shorter = parsed("A=ab;", "ab");
+        due("told(5) of ab", shorter.told(5), 1);
+        write(shorter, "a");
+        due("parse() of a behind ab", shorter.parse(), -11);
+        due("derivations() of a behind ab", shorter.derivations(), 0);
+        write(shorter, "A=ab");
+        due("load() of a text that ends before an old ;", shorter.load(), -14);
         sentence("Returns how many bytes it had.");
         due("clear() of nothing", empty().clear(), 0);
         due("clear() of one", typed("!").clear(), 1);
@@ -950,6 +1001,7 @@ public final class BoundaryTest {
         due("production(1, 0)", x.production(1, 0), BAD);
         due("nonterminal(1, 6)", x.nonterminal(1, 6), 0);
         due("depth(0)", x.depth(0), BAD);
+        leftovers();
         sentence("Returns the number of productions");
         dueLoad("A=;", 1, NONE);
         dueLoad("A=" + times("|", 15) + ";", 16, NONE);
@@ -978,6 +1030,33 @@ public final class BoundaryTest {
         due("told(4) behind it", cached.told(4), 1);
         due("undo() behind it", cached.undo(), 0);
         due("fault() behind it", cached.fault(), 1);
+    }
+
+    /** Nothing of an earlier grammar or of a text that was refused may be left in the present one. */
+    private static void leftovers() {
+        LookaheadDepths x = loaded("A=AB|;B=b|;");
+        due("nonterminal(0, 5)", x.nonterminal(0, 5), 1);
+        write(x, "A=a;");
+        x.load();
+        due("nonterminal(0, 1) behind an empty one", x.nonterminal(0, 1), 0);
+        due("nonterminal(0, 4) behind a recursive one", x.nonterminal(0, 4), 0);
+        due("nonterminal(0, 5) behind a cyclic one", x.nonterminal(0, 5), 0);
+        due("nonterminal(1, 3) behind a reachable one", x.nonterminal(1, 3), 0);
+        due("words(0, 0, 3) behind more", x.words(0, 0, 3), 1);
+        due("words(1, 0, 3) behind more", x.words(1, 0, 3), 1);
+        due("words(2, 0, 3) behind more", x.words(2, 0, 3), 1);
+        LookaheadDepths y = typed("A=;B=||");
+        due("load() of a text that ends too early", y.load(), -17);
+        write(y, "A=;");
+        y.load();
+        due("nonterminal(1, 0) behind it", y.nonterminal(1, 0), 0);
+        due("nonterminal(1, 6) behind it", y.nonterminal(1, 6), 0);
+        LookaheadDepths z = typed("A=aA!");
+        due("load() of a text with a wrong byte", z.load(), -14);
+        write(z, "A=B;B=;");
+        z.load();
+        due("nonterminal(0, 4) behind it", z.nonterminal(0, 4), 0);
+        due("symbol(0, 1) behind it", z.symbol(0, 1), NONE);
     }
 
     private static void fault() {
@@ -1580,6 +1659,19 @@ public final class BoundaryTest {
         due("step(0, 199) of 3906 steps", more.step(0, 199), 5);
         due("step(1, 199) of 3906 steps", more.step(1, 199), 5);
         due("step(1, 200) of 3906 steps", more.step(1, 200), BAD);
+        LookaheadDepths eight = loaded("A=BBCFF;B=aaaaC;C=DDDD;D=EEEEE;E=FF;F=;", "aaaaaaaa");
+        due("step(0, 199) of 200 steps and 8 letters", eight.step(0, 199), 5);
+        due("step(0, 2) of 200 steps and 8 letters", eight.step(0, 2), 2);
+        LookaheadDepths high = loaded("A=BAAAA|;B=CAAAA;C=DAAAA;D=EAAAA;E=FAAAA;F=AaAAA|a;", "aaaaaaaa");
+        int[] round = {0, 2, 3, 4, 5, 6};
+        for (int i = 0; i < 48; i++) {
+            due("step(0, " + i + ") of a high stack", high.step(0, i), round[i % 6]);
+            due("step(1, " + i + ") of a high stack", high.step(1, i), i == 47 ? 7 : round[i % 6]);
+        }
+        for (int i : new int[] {48, 49, 120, 198, 199}) {
+            due("step(0, " + i + ") of a high stack", high.step(0, i), 1);
+            due("step(1, " + i + ") of a high stack", high.step(1, i), 1);
+        }
         LookaheadDepths late = loaded("A=DCBBa;D=CCCCC;C=BBBBB;B=FFFFF;F=|;", "a");
         due("step(0, 199), the last one", late.step(0, 199), 4);
         due("step(1, 199), the last one", late.step(1, 199), 5);
