@@ -48,7 +48,12 @@ public final class BoundaryTest {
 
     // ---- the document
 
+    /** Where the document is not at hand, the answers are still checked, but not the quotations. */
     private static void readDocument() throws IOException {
+        if (!Files.isReadable(DOCUMENT)) {
+            System.out.println("the quotations are not compared, as there is no " + DOCUMENT);
+            return;
+        }
         String document = plain(Files.readString(DOCUMENT));
         String[] titles = {"RETURN VALUES", "GRAMMARS", "WORDS AHEAD", "PARSING", "TEXTS", "HISTORY"};
         for (int i = 0; i < titles.length; i++) {
@@ -97,6 +102,9 @@ public final class BoundaryTest {
         sentence = words;
         sentences++;
         checksBefore = checks;
+        if (PARTS.isEmpty()) {
+            return;
+        }
         if (!PARTS.get(part).contains(words)) {
             complain("the document does not say so");
         }
@@ -1717,6 +1725,14 @@ public final class BoundaryTest {
         dueAmbiguous("A=eaaa|eaaa|dede|dede|dedd|dedd;", w("dedd"));
         dueAmbiguous("A=|a|a|e|e|;", 0);
         dueAmbiguous("A=BBBBB;B=a|b;C=;", NONE);
+        dueAmbiguous("A=BC;B=ab|abc;C=cd|d;", w("abcd"));
+        dueAmbiguous("A=BC;B=ab|abc;C=cde|de;", NONE);
+        dueAmbiguous("A=BB;B=|b;", w("b"));
+        dueAmbiguous("A=BD;B=e|ed;D=d|dd|;", w("ed"));
+        dueAmbiguous("A=AA|e|d;", w("ddd"));
+        dueAmbiguous("A=eAd|B;B=BB|ec;", NONE);
+        dueAmbiguous("A=eBd|Cd;B=ee|e;C=eBe;", w("eeed"));
+        dueAmbiguous("A=BBaB;B=c|d|;", w("ca"));
         sentence("Returns its letters as digits to the base 6, each plus 1, as for words by k");
         dueAmbiguous("A=|;", 0);
         dueAmbiguous("A=e|e;", 5);
