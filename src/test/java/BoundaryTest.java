@@ -1680,6 +1680,7 @@ public final class BoundaryTest {
             due("step(0, " + i + ") of a high stack", high.step(0, i), 1);
             due("step(1, " + i + ") of a high stack", high.step(1, i), 1);
         }
+        highestStack();
         LookaheadDepths late = loaded("A=DCBBa;D=CCCCC;C=BBBBB;B=FFFFF;F=|;", "a");
         due("step(0, 199), the last one", late.step(0, 199), 4);
         due("step(1, 199), the last one", late.step(1, 199), 5);
@@ -1712,6 +1713,21 @@ public final class BoundaryTest {
         due("step(1, 199), then the fault", loaded("A=a;", "!").step(1, 199), -100);
         due("step(2, 0), BAD before the fault", loaded("A=a;", "!").step(2, 0), BAD);
         due("step(0, 0), cyclic but not reachable", loaded("A=a;B=B;", "a").step(0, 0), 0);
+    }
+
+    /** Before its first letter is gone over, 213 symbols wait to be replaced or gone over in the first derivation. */
+    private static void highestStack() {
+        LookaheadDepths x = loaded("A=BFFFF;B=CFFFF;C=DFFFF;D=EFFFF;E=FFFFF;F=AaFFF|;", "aaaaaaaa");
+        for (int i = 0; i < 60; i++) {
+            int first = i < 53 ? i % 6 : 6;
+            due("step(0, " + i + ") of the highest stack", x.step(0, i), first);
+            int second = i < 47 ? i % 6 : i == 48 ? 5 : i > 48 && i < 54 ? i - 49 : 6;
+            due("step(1, " + i + ") of the highest stack", x.step(1, i), second);
+        }
+        for (int i = 60; i < 200; i++) {
+            due("step(0, " + i + ") of the highest stack", x.step(0, i), 6);
+            due("step(1, " + i + ") of the highest stack", x.step(1, i), 6);
+        }
     }
 
     private static void ambiguous() {
